@@ -1,18 +1,44 @@
+import java.io.IOException;
 import java.nio.charset.StandardCharsets;
+import java.nio.file.Files;
+import java.nio.file.Path;
 
 /** What the tests share: answers that are due are compared, and texts are put on a house's tape. */
 final class Due {
+    static final Path DOCUMENT = Path.of("../shared/DOC.md");
+
     private final String test;
+    private final String document = documentText();
+    private String sentence = "";
     private int wrong;
 
     Due(String test) {
         this.test = test;
     }
 
+    /** Empty where the document is not at hand: its sentences are not compared then. */
+    static String documentText() {
+        try {
+            return Files.exists(DOCUMENT) ? Files.readString(DOCUMENT) : "";
+        } catch (IOException e) {
+            throw new IllegalStateException(e);
+        }
+    }
+
+    /** The words of the document that the next answers are due by; a quote that it does not have is wrong. */
+    void by(String words) {
+        sentence = words;
+        if (!document.isEmpty() && !document.contains(words)) {
+            wrong++;
+            System.out.println(test + ": the document does not say '" + words + "'");
+        }
+    }
+
     void is(String call, long got, long want) {
         if (got != want) {
             wrong++;
-            System.out.println(test + ": " + call + " answered " + got + ", due is " + want);
+            String by = sentence.isEmpty() ? "" : ", by '" + sentence + "'";
+            System.out.println(test + ": " + call + " answered " + got + ", due is " + want + by);
         }
     }
 
@@ -56,6 +82,15 @@ final class Due {
 
     static int station(ContactHouse house, String call) {
         return station(house, call, 0, 0, 0, 0);
+    }
+
+    /** A house with SINGLES of these calls, all of zone 0 and in one square. */
+    static ContactHouse houseOf(String... calls) {
+        ContactHouse house = new ContactHouse();
+        for (String call : calls) {
+            station(house, call);
+        }
+        return house;
     }
 
     static int log(ContactHouse house, int s, int band, String... lines) {
