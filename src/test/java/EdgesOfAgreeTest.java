@@ -84,6 +84,10 @@ public final class EdgesOfAgreeTest {
                 agree(h, "q 100 B" + lack, "q 100 A" + other, false);
             }
         }
+        ContactHouse alone = Due.houseOf("A", "B");
+        Due.log(alone, 0, 0, "q 100 B");
+        Due.log(alone, 1, 0, "q 900 A");
+        DUE.ask(alone, "no clock goes by what lacks on both sides", alone.offset(0), 0, 0);
     }
 
     private static void theOtherWayRound() {

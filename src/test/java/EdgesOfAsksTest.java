@@ -149,7 +149,8 @@ public final class EdgesOfAsksTest {
 
     /** Only the contact on the band told divides by 0; A1's team and a team without it. */
     private static void aRuleThatDivides() {
-        DUE.by("(A RULE that divides by 0 is FINDING 5 of an ask that works it, contacts from the first line of band 0 on; of a TEAM's, too.)");
+        DUE.by("(A RULE that divides by 0 is FINDING 5 of an ask that works it,"
+            + " contacts from the first line of band 0 on; of a TEAM's, too.)");
         for (int band = 0; band < 3; band++) {
             ContactHouse h = house();
             Due.station(h, "U1", 4, 0, 0, 0);

@@ -25,6 +25,10 @@ public final class EdgesOfLogsTest {
             if (b != 10) {
                 line("q" + (char) b + "1 A", b == 32 ? RIGHT : 0);
                 line("q 1" + (char) b + "A", b == 32 ? RIGHT : 2);
+                line((char) b + "q 1 A", b == 32 ? RIGHT : 0);
+                boolean isDigit = b >= '0' && b <= '9';
+                line("q 1 A 2 " + (char) b, b == 32 || isDigit ? RIGHT : 8);
+                line("r 1 2 " + (char) b, b == 32 ? RIGHT : 6);
             }
         }
         line("   q   1   A   2   3   ", RIGHT);

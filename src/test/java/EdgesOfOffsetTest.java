@@ -53,6 +53,8 @@ public final class EdgesOfOffsetTest {
         offset("two with one contact", 5, "q 100 B 1 1\nq 101 B 1 1", "q 150 A 1 1", 45);
         offset("numbers that are not as they should be", 0, "q 100 B 1 2", "q 150 A 1 2", 0);
         offset("numbers that lack there", 0, "q 100 B 1 2", "q 150 A 2", 0);
+        offset("numbers that lack on both sides", 0, "q 100 B", "q 150 A", 0);
+        offset("a number that lacks on both sides", 0, "q 100 B 1", "q 150 A 1", 0);
         offset("a call that is not its own", 0, "q 100 B 1 2", "q 150 C 2 1", 0);
         ContactHouse h = house(0, "x", "x");
         Due.log(h, 0, 1, "q 100 B 1 1");
