@@ -121,6 +121,10 @@ public final class EdgesOfOffsetTest {
         offset("the greatest window", 3600, "q 0 B 1 1", "q 3601 A 1 1", 1);
         offset("of two, the nearer one above 0", 5, "q 1000 B 1 1", "q 1100 A 1 1\nq 899 A 1 1", 95);
         offset("of two, the nearer one below 0", 5, "q 1000 B 1 1", "q 1101 A 1 1\nq 900 A 1 1", -95);
+        offset("the farther one first, below 0, then one above", 5, "q 1000 B 1 1", "q 899 A 1 1\nq 1100 A 1 1", 95);
+        offset("the farther one first, both below", 5, "q 1000 B 1 1", "q 899 A 1 1\nq 900 A 1 1", -95);
+        offset("the farther one first, both above", 5, "q 1000 B 1 1", "q 1101 A 1 1\nq 1100 A 1 1", 95);
+        offset("the nearest one between two", 5, "q 1000 B 1 1", "q 1200 A 1 1\nq 950 A 1 1\nq 800 A 1 1", -45);
         offset("two of three, though all by more", 0, "q 100 B 1 1\nq 200 B 2 2\nq 300 B 3 3",
             "q 150 A 1 1\nq 250 A 2 2\nq 160 A 1 1\nq 260 A 2 2\nq 360 A 3 3", 50);
         offset("all, where two are too few", 0, "q 100 B 1 1\nq 200 B 2 2\nq 300 B 3 3\nq 400 B",

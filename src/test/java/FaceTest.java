@@ -6,8 +6,10 @@ import java.lang.reflect.Modifier;
 import java.nio.file.Files;
 import java.nio.file.Path;
 import java.util.Arrays;
+import java.util.List;
 import java.util.Set;
 import java.util.TreeSet;
+import java.util.regex.Matcher;
 import java.util.regex.Pattern;
 
 /** The document's face, and the rules of LANGUAGE.md that can be seen without reading. */
@@ -79,10 +81,26 @@ public final class FaceTest {
         }
     }
 
+    /** A method ends at the first brace that stands as far in as its head. */
+    private static void lengths() throws IOException {
+        List<String> lines = Files.readAllLines(Path.of("src/main/java/ContactHouse.java"));
+        int methods = 0;
+        for (int from = 0; from < lines.size(); from++) {
+            Matcher head = Pattern.compile("( +)(public|private) [^=]*\\) \\{").matcher(lines.get(from));
+            if (head.matches()) {
+                int to = lines.subList(from, lines.size()).indexOf(head.group(1) + "}");
+                DUE.is("at most sixty lines, from line " + (from + 1) + " on", to >= 0 && to < 60 ? 1 : 0, 1);
+                methods++;
+            }
+        }
+        DUE.is("methods are found: " + methods, methods > 100 ? 1 : 0, 1);
+    }
+
     public static void main(String[] args) throws IOException {
         members();
         privateParts();
         words();
+        lengths();
         DUE.end();
     }
 }
